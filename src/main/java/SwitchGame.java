@@ -1087,6 +1087,9 @@ public final class SwitchGame {
             int at = right[x];
             for (int step = 0; step < MOST_KNOTS && at != left[x]; step++) {
                 int i = via[at & 7];
+                if (i < 0 || i >= MOST) {
+                    return APART;
+                }
                 lines |= 1 << i;
                 at = left[i] == at ? right[i] : left[i];
             }
@@ -1602,6 +1605,9 @@ public final class SwitchGame {
         }
 
         private int aheadOf(int j) {
+            if (j < 0 || j >= MOST_LINES) {
+                return NONE;
+            }
             int ahead = 0;
             for (int other = 0; other < size && other < MOST_LINES; other++) {
                 if (turned[other] > turned[j] || turned[other] == turned[j] && other < j) {
