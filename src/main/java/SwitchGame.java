@@ -14,6 +14,8 @@ public final class SwitchGame {
 
     private static final int MISSING = -2;
     private static final int BARRED = -3;
+    private static final int PASS_UNDONE = -2;
+    private static final int PASS_WRITTEN = -3;
 
     private static final int JOIN = 0;
     private static final int CUT = 1;
@@ -142,7 +144,7 @@ public final class SwitchGame {
         int i = history.takeLatest();
         mover = 1 - mover;
         if (!net.isLine(i)) {
-            return MISSING;
+            return PASS_UNDONE;
         }
         joined &= ~(1 << i);
         gone &= ~(1 << i);
@@ -157,7 +159,7 @@ public final class SwitchGame {
             return MISSING;
         }
         int i = history.entry(k);
-        return i == NONE ? BARRED : i;
+        return i == NONE ? PASS_WRITTEN : i;
     }
 
     public int now(int what) {
@@ -255,7 +257,7 @@ public final class SwitchGame {
         switch (what) {
             case 0: return luckySets.positionsOf(JOIN);
             case 1: return luckySets.positionsOf(CUT);
-            case 2: return luckySets.allPositions() - luckySets.positionsOf(JOIN) - luckySets.positionsOf(CUT);
+            case 2: return luckySets.positionsOfNobody();
             default: return luckySets.allPositions();
         }
     }
@@ -1485,13 +1487,17 @@ public final class SwitchGame {
             return value;
         }
 
-        /** Whose set is held: each line beside it is in one of two other states. */
+        /** In how many one HAS it: each line beside a set of his is in one of two other states. */
         private int positionsOf(int who) {
             int sum = 0;
             for (int k = 0; k <= size; k++) {
                 sum += sized(who, k) << (size - k);
             }
             return sum;
+        }
+
+        private int positionsOfNobody() {
+            return allPositions() - positionsOf(JOIN) - positionsOf(CUT);
         }
 
         private int allPositions() {

@@ -56,6 +56,9 @@ public final class TextTest {
         fault("first cut;", 1, 0);
         fault("knot 3;", 1, 0);
         fault("Knots 3;", 1, 0);
+        fault("knotsa 3;", 1, 0);
+        fault("knotsz 3;", 1, 0);
+        fault("zknots 3;", 1, 0);
         fault("\tknots 3;", 1, 0);
         fault("knots", 1, 5);
         fault("knots  ", 1, 7);
