@@ -68,10 +68,8 @@ public final class DenseTest {
             checks.due("set(" + k + ")", model.set(k), game.set(k));
             checks.due("duel(" + k + ")", model.duel(k), game.duel(k));
         }
-        if (model.lines.size() <= 12) {
-            for (int what = 0; what < 3; what++) {
-                checks.due("forests(" + what + ")", model.forests(what), game.forests(what));
-            }
+        for (int what = 0; what < 3; what++) {
+            checks.due("forests(" + what + ")", model.forests(what), game.forests(what));
         }
         if (model.lines.size() <= 10) {
             checks.due("played(-1)", model.played(-1), game.played(-1));

@@ -89,9 +89,7 @@ public final class ModelTest {
             checks.due("set(" + k + ")", model.set(k), game.set(k));
         }
         for (int what = -1; what <= 3; what++) {
-            if (model.now(2) <= 11) {
-                checks.due("forests(" + what + ")", model.forests(what), game.forests(what));
-            }
+            checks.due("forests(" + what + ")", model.forests(what), game.forests(what));
         }
     }
 
