@@ -48,7 +48,7 @@ public final class AnyCallTest {
             call.append(' ').append(arguments[i]);
         }
         boolean asks = !CHANGING.contains(method.getName() + " ");
-        String before = asks ? stateOf(game) : "";
+        String before = asks ? State.withTape(game) : "";
         checks.about(call.toString());
         Throwable thrown = null;
         try {
@@ -61,7 +61,7 @@ public final class AnyCallTest {
                 || thrown.getClass() == NoSuchElementException.class);
         checks.due("throws nothing else", 1, fine ? 1 : 0);
         if (asks) {
-            checks.due("changes nothing", 1, before.equals(stateOf(game)) ? 1 : 0);
+            checks.due("changes nothing", 1, before.equals(State.withTape(game)) ? 1 : 0);
         }
     }
 
@@ -71,20 +71,5 @@ public final class AnyCallTest {
             case 1: return random.nextInt();
             default: return random.nextInt(16) - 1;
         }
-    }
-
-    private static String stateOf(SwitchGame game) {
-        StringBuilder state = new StringBuilder();
-        for (int what = 0; what < 7; what++) {
-            state.append(game.now(what)).append(' ').append(game.count(what)).append(' ').append(game.fault(what));
-            state.append(' ');
-        }
-        for (int i = 0; i < game.count(1); i++) {
-            state.append(game.line(i, 0)).append(game.line(i, 1)).append(game.line(i, 2)).append(' ');
-        }
-        for (int k = 0; k < game.now(6); k++) {
-            state.append(game.written(k)).append(' ');
-        }
-        return state.toString();
     }
 }

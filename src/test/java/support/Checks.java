@@ -33,8 +33,8 @@ public final class Checks {
         }
     }
 
-    public int wrong() {
-        return wrong;
+    public int asked() {
+        return right + wrong;
     }
 
     /** Ends the test: exit code 1, if something was wrong, or nothing was asked. */
