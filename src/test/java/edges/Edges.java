@@ -24,6 +24,15 @@ abstract class Edges {
     /** CUT HAS it; two lines are OPEN, the third is GONE. */
     static final String LOST = "knots 3;line 0 1;line 0 1;line 1 2;gone 2;";
 
+    /**
+     * Lines of all states: 0 is JOINED, 2 and 6 are GONE; OPEN are 1 within the PLACE 0, 3 and 4 between the ends
+     * 0 and 4, 7 and 8 in a row beside them, 5 from there to KNOT 3.
+     */
+    static final String STANDING = "knots 5;line 0 1;line 0 1;line 1 4;line 1 4;line 0 4;line 2 3;line 2 3;line 1 2;line 2 4;"
+            + "joined 0;gone 2;gone 6;";
+    /** Likewise, 4 being GONE, too, so that who begins wins. */
+    static final String STANDING_KEEN = STANDING + "gone 4;";
+
     private final Checks checks;
     private final Sentences sentences;
 

@@ -53,6 +53,8 @@ final class GameEdges extends Edges {
         isPlayed(LOST);
         isPlayed(lines("knots 2;", 14), 0, 1);
         isPlayed(lines("knots 2;", 14) + "first join;", 0);
+        isPlayed(STANDING_KEEN, 3, 1, 5, 7, 8);
+        isPlayed(STANDING_KEEN + "first join;", 3);
         isPlayed(DOUBLE_CHAIN, 0, 7, 1, 8, 2, 9, 3, 10, 4, 11, 5, 12, 6, 13);
     }
 
@@ -116,6 +118,7 @@ final class GameEdges extends Edges {
     private void verified() {
         promise(19, "VERIFIED, what 0 how many games, 1 in how many JOIN HAS it;");
         areVerified(TWO_TREES, 8);
+        areVerified(STANDING, 6);
         areVerified(TREES_AND_TAILS + "line 2 3;".repeat(6), 80);
 
         promise(19, "-2: there is no PAIR,");
@@ -165,6 +168,8 @@ final class GameEdges extends Edges {
         promise(20, "FULL: who wins (0 JOIN, 1 CUT), if that one (0 JOIN, 1 CUT) is to move;");
         for (String first : FIRSTS) {
             isFull(BRIDGE + first, 0, 1);
+            isFull(STANDING + first, 0, 0);
+            isFull(STANDING_KEEN + first, 0, 1);
             isFull(HAD + first, 0, 0);
             isFull(LOST + first, 1, 1);
         }
@@ -193,6 +198,7 @@ final class GameEdges extends Edges {
         row("positions, CUT HAS it", game(LOST)::positions, 0, 0, 9, 0, 9);
         row("positions, others as they are", game("knots 3;line 0 1;line 1 2;line 0 2;joined 0;gone 2;")::positions, 0,
                 1, 1, 1, 3);
+        row("positions, lines of all states", game(STANDING_KEEN)::positions, 0, 99, 45, 99, 243);
         row("positions of ten", game(lines("knots 2;", 10))::positions, 0, 58025, 1, 1023, 59049);
         row("positions of ten in a row of lines that tells nothing", game(lines("knots 3;", 10))::positions, 0,
                 0, 59049, 0, 59049);
@@ -222,6 +228,8 @@ final class GameEdges extends Edges {
     private void cutAnswer() {
         promise(33, "CUT'S ANSWER to a LINE;");
         row("cutAnswer", game("knots 3;line 1 2;line 0 1;line 0 1;")::cutAnswer, 0, -2, 0, 0);
+
+        row("cutAnswer, lines of all states", game(STANDING_KEEN)::cutAnswer, 0, -2, 3, -2, -2, -2, 3, -2, -2, -2);
 
         promise(33, "-2: it isn't OPEN,");
         row("cutAnswer, 0 is GONE", game(ROADS + "gone 0;")::cutAnswer, 0, -2, 2, 3, 2);
@@ -284,6 +292,7 @@ final class GameEdges extends Edges {
     private void verifiedForCut() {
         promise(34, "VERIFIED FOR CUT, what 0 how many games, 1 in how many CUT HAS it;");
         areVerifiedForCut(road(6), 158);
+        areVerifiedForCut(STANDING_KEEN + "gone 3;", 6);
         areVerifiedForCut(LOST, 1);
 
         promise(34, "-2: it is KEEN,");
@@ -351,6 +360,14 @@ final class GameEdges extends Edges {
             due("50 games of CUT from " + seed, 0, game("knots 2;line 0 1;").chance(seed, 50));
         }
 
+        SwitchGame standing = game(STANDING_KEEN);
+        int[][] won = {{0, 1, 6, 24}, {1, 0, 7, 26}, {12345, 1, 7, 25}, {FAR, 1, 6, 28}};
+        for (int[] row : won) {
+            due("lines of all states, one game", row[1], standing.chance(row[0], 1));
+            due("lines of all states, ten games", row[2], standing.chance(row[0], 10));
+            due("lines of all states, fifty games", row[3], standing.chance(row[0], 50));
+        }
+
         promise(43, "NONE: no such ones.");
         for (int n : new int[] {1, 50}) {
             below("chance(seed, " + n + ")", seed -> two.chance(seed, n), -1, 0);
@@ -383,6 +400,12 @@ final class GameEdges extends Edges {
             due("two rounds from " + seed, 4, game(TWO_TREES).duel(seed));
             due("seven rounds from " + seed, 14, game(DOUBLE_CHAIN).duel(seed));
         }
+
+        for (int seed : new int[] {0, 1, FAR - 1, FAR}) {
+            due("six rounds, one line is JOINED, from " + seed, 12, game(DOUBLE_CHAIN + "joined 13;").duel(seed));
+        }
+        // Line 0 is drawn; 1 is GONE, so that it is answered by 4, and 0 and 1 are still to be joined.
+        due("one line is GONE", 4, game("knots 3;line 0 2;line 0 2;line 0 1;line 0 1;line 1 2;line 1 2;gone 1;").duel(0));
 
         promise(42, "-2: there is no PAIR;");
         for (String text : new String[] {BRIDGE, ROADS, HAD, LOST, "knots 8;"}) {

@@ -187,6 +187,7 @@ final class PairEdges extends Edges {
     private void pair() {
         promise(13, "Of the PAIR, what 0 the SET, 1 A, 2 B, all as bits, 3 how many PLACES;");
         row("pair of two", game("knots 2;line 0 1;line 0 1;")::pair, 0, 3, 1, 2, 2);
+        row("pair, lines of all states", game(STANDING)::pair, 0, 17, 8, 16, 2);
         row("pair of eight", game(DOUBLE_CHAIN)::pair, 0, 255, 127, 16256, 8);
         row("pair of the last lines", game("knots 8;ends 6 7;" + "line 0 1;".repeat(12) + "line 6 7;line 7 6;")::pair, 0,
                 192, 4096, 8192, 2);
@@ -218,6 +219,9 @@ final class PairEdges extends Edges {
         game.move(1);
         due("not KEEN", 1, game.outcome());
         due("a new object", 1, new SwitchGame().outcome());
+        due("lines of all states, a PAIR", 0, game(STANDING).outcome());
+        due("lines of all states, KEEN", 2, game(STANDING_KEEN).outcome());
+        due("lines of all states, not KEEN", 1, game(STANDING_KEEN + "gone 3;").outcome());
     }
 
     private void wins() {
@@ -226,6 +230,7 @@ final class PairEdges extends Edges {
             winning("knots 3;ends 0 1;line 1 2;line 0 1;" + first, new int[] {1}, new int[] {1});
             winning(BRIDGE + first, new int[] {0, 1, 2, 3, 4}, new int[] {0, 1, 2, 3, 4});
         }
+        winning(STANDING_KEEN, new int[] {3, 7, 8}, new int[] {3});
         winning(lines("knots 2;", 14), new int[] {0, 1, 2, 3, 4, 5, 6, 7, 8, 9, 10, 11, 12, 13}, new int[] {});
 
         promise(15, "-2: there are not so many;");
@@ -248,6 +253,7 @@ final class PairEdges extends Edges {
     private void answer() {
         promise(16, "ANSWER to a LINE;");
         row("answer in a small one", game(TAIL_FIRST)::answer, 0, 1, 2, 1);
+        row("answer, lines of all states", game(STANDING)::answer, 0, -2, 3, -2, 4, 3, 3, -2, 3, 3);
         row("answer, JOIN is to move", game(SAFE + "first join;")::answer, 0, 1, 0, 3, 2, 0);
 
         promise(16, "-2: it isn't OPEN;");
@@ -272,6 +278,7 @@ final class PairEdges extends Edges {
     private void exchange() {
         promise(17, "EXCHANGE of a LINE;");
         row("exchange", game(SAFE)::exchange, 0, 1, 0, 3, 2);
+        row("exchange, lines of all states", game(STANDING)::exchange, 0, -2, -2, -2, 4, 3, -2, -2, -2, -2);
         row("exchange, JOIN is to move", game(SAFE + "first join;")::exchange, 0, 1, 0, 3, 2);
 
         promise(17, "-3: there is no PAIR (ahead of -2);");
@@ -305,6 +312,7 @@ final class PairEdges extends Edges {
         SwitchGame far = game("knots 7;ends 0 1;line 0 2;line 0 2;line 2 3;line 2 3;line 3 1;line 3 1;"
                 + "line 0 6;line 0 6;line 6 1;line 6 1;");
         row("three PLACES, four, five", far::set, 0, 67, 15, 71, 75, 79, -2);
+        row("set, lines of all states", game(STANDING)::set, 0, 17, 21, -2);
         row("by the numbers of PLACES", game("knots 4;ends 2 3;line 1 3;line 2 3;line 2 1;joined 0;")::set, 0, 6, -2);
 
         promise(38, "-2: there are not so many;");

@@ -49,6 +49,7 @@ final class SetEdges extends Edges {
         promise(22, "WALL, what 0 how many, 1 which (bits);");
         isWall("knots 2;line 0 1;", 1);
         isWall(BRIDGE, 3);
+        isWall(STANDING_KEEN, 136);
         row("wall, CUT HAS it", new SwitchGame()::wall, 0, 0, 0);
 
         promise(22, "-2: JOIN HAS it;");
@@ -80,6 +81,7 @@ final class SetEdges extends Edges {
         promise(23, "ROAD, what 0 how many, 1 which (bits);");
         isRoad("knots 2;line 0 1;", 1);
         isRoad(BRIDGE, 9);
+        isRoad(STANDING_KEEN, 8);
         isRoad("knots 2;line 0 1;joined 0;", 0);
 
         promise(23, "-2: CUT HAS it;");
@@ -113,6 +115,7 @@ final class SetEdges extends Edges {
         promise(24, "k NONE: of any number;");
         due("bridge", 16, game(BRIDGE).lucky(-1));
         due("fourteen", 16383, game(FOURTEEN).lucky(-1));
+        due("lines of all states", 20, game(STANDING_KEEN).lucky(-1));
         due("JOIN HAS it, thirteen OPEN", 8192, game(FOURTEEN + "joined 13;").lucky(-1));
         due("none OPEN", 0, new SwitchGame().lucky(-1));
 
@@ -133,6 +136,7 @@ final class SetEdges extends Edges {
         for (int i = 0; i < 14; i++) {
             due("luckyWith(" + i + ") of fourteen", 8192, fourteen.luckyWith(i));
         }
+        row("luckyWith, lines of all states", game(STANDING_KEEN)::luckyWith, 0, -2, 10, -2, 16, -2, 10, -2, 12, 12);
         row("luckyWith, CUT HAS it", game(LOST)::luckyWith, 0, 0, 0);
         row("luckyWith, JOIN HAS it", game(HAD)::luckyWith, 1, 2, 2);
 
@@ -157,6 +161,7 @@ final class SetEdges extends Edges {
 
         promise(35, "How many LUCKY sets a LINE is the PIVOT of;");
         row("pivots", game(BRIDGE)::pivots, 0, 6, 6, 2, 6, 6);
+        row("pivots, lines of all states", game(STANDING_KEEN)::pivots, 0, -2, 0, -2, 12, -2, 0, -2, 4, 4);
         row("pivots of a neck", game(NECK)::pivots, 0, 1, 1, 1, 7);
         due("the last of fourteen", 1, game(FOURTEEN).pivots(13));
         due("the one of fourteen that tells", 8192, game("knots 3;ends 0 1;" + "line 1 2;".repeat(13) + "line 0 1;").pivots(13));
@@ -178,6 +183,7 @@ final class SetEdges extends Edges {
         due("a row, one JOINED", 119, game(ROW + "joined 3;").needed());
         due("a neck", 8, game(NECK).needed());
         due("each is enough", 0, game(FOURTEEN).needed());
+        due("lines of all states, but one road GONE", 384, game(STANDING_KEEN + "gone 3;").needed());
         due("one is left", 8192, game("knots 3;ends 0 1;" + "line 1 2;".repeat(13) + "line 0 1;").needed());
         due("none at all is a LUCKY set", 0, game(HAD).needed());
 
@@ -204,6 +210,7 @@ final class SetEdges extends Edges {
 
         promise(37, "k NONE: of any number;");
         due("two roads", 9, game(ROADS).walls(-1));
+        due("lines of all states", 12, game(STANDING_KEEN).walls(-1));
         due("fourteen", 1, game(FOURTEEN).walls(-1));
         due("fourteen that tell nothing", 16384, game(lines("knots 3;", 14)).walls(-1));
         due("none OPEN", 1, new SwitchGame().walls(-1));
@@ -231,6 +238,9 @@ final class SetEdges extends Edges {
         row("alike(1, j), a road of two beside one", j -> two.alike(1, j), 0, 0, 1, 1);
 
         promise(39, "Whether two LINES are ALIKE (1, 0;");
+        SwitchGame standing = game(STANDING_KEEN);
+        row("alike(7, j), lines of all states", j -> standing.alike(7, j), 0, -2, 0, -2, 0, -2, 0, -2, 1, 1);
+        row("alike(1, j), lines of all states", j -> standing.alike(1, j), 0, -2, 1, -2, 0, -2, 1, -2, 0, 0);
         due("no LUCKY sets", 1, game(LOST).alike(0, 1));
         due("all are LUCKY", 1, game(HAD).alike(1, 2));
         due("the first and the last of fourteen", 1, game(FOURTEEN).alike(0, 13));
@@ -269,6 +279,7 @@ final class SetEdges extends Edges {
         row("strong, none is a PIVOT", game(LOST)::strong, 0, 0, 1, -2);
 
         promise(40, "The k-th STRONG LINE (k from 0 on);");
+        row("strong, lines of all states", game(STANDING_KEEN)::strong, 0, 3, 7, 8, 1, 5, -2);
         row("strong of OPEN ones", game(HAD)::strong, 0, 1, 2);
         SwitchGame last = game("knots 3;ends 0 1;" + "line 1 2;".repeat(13) + "line 0 1;");
         row("strong of fourteen", last::strong, 0, 13, 0, 1, 2, 3, 4, 5, 6, 7, 8, 9, 10, 11, 12);

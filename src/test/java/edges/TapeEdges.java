@@ -123,8 +123,33 @@ final class TapeEdges extends Edges {
         due("lucky sets anew", 1, game.lucky(-1));
         due("the same text again", 3, Tape.read(game, "knots 3;line 0 1;line 1 2;"));
 
+        anew();
         faultyText();
         refusedText();
+    }
+
+    /** What was asked or told of an earlier net is no more, though the same lines are OPEN. */
+    private void anew() {
+        promise(3, "(all anew, nothing to undo)");
+        SwitchGame game = game("knots 2;ends 1 0;line 0 1;line 0 1;gone 0;first join;");
+        due("the same again", 6, Tape.read(game, "knots 2;ends 1 0;line 0 1;line 0 1;gone 0;first join;"));
+        due("without", 3, Tape.read(game, "knots 2;line 0 1;line 0 1;"));
+        row("now", game::now, 0, 1, 2, 2, 0, 0, 2, 0);
+        due("lucky", 3, game.lucky(-1));
+        due("verified", 2, game.verified(0));
+        due("two roads", 5, Tape.read(game, ROADS));
+        due("lucky of two roads", 7, game.lucky(-1));
+        due("verifiedForCut of two roads", 8, game.verifiedForCut(0));
+        due("one road", 3, Tape.read(game, "knots 3;line 0 1;line 1 2;"));
+        due("lucky of one road", 1, game.lucky(-1));
+        due("verifiedForCut of one road", 2, game.verifiedForCut(0));
+        due("two trees", 5, Tape.read(game, TWO_TREES));
+        due("lucky of two trees", 9, game.lucky(-1));
+        due("verified of two trees", 8, game.verified(0));
+        due("fewer lines", 3, Tape.read(game, "knots 2;line 0 1;line 0 1;"));
+        due("verified of two lines", 2, game.verified(0));
+        due("strong of two lines", -2, game.strong(2));
+        due("trees of two lines", 2, game.trees());
     }
 
     private void faultyText() {

@@ -282,11 +282,12 @@ final class TextEdges extends Edges {
 
         terms("(a word that is none of these;");
         for (String word : new String[] {"knot", "knotss", "nots", "knotz", "lines", "lin", "end", "ende", "join", "joine",
-            "joinedd", "gon", "gones", "firs", "firsts", "cut", "cuts", "a", "z", "open"}) {
+            "joinedd", "gon", "gones", "firs", "firsts", "cut", "cuts", "a", "z", "open", "knotsa", "knotsz", "linea", "endsz",
+            "anots", "xine", "xnds", "xoined", "xone", "xirst", "line" + "line"}) {
             fault(1, "knots 2;line 0 1;^" + word + " 0;");
             fault(1, "^" + word + " 2;");
         }
-        for (String word : new String[] {"joined", "joi", "joins", "cuts", "cu", "gone", "none", "knots", "line", "ends"}) {
+        for (String word : new String[] {"xoin", "xut", "joined", "joi", "joins", "cuts", "cu", "gone", "none", "knots", "line", "ends"}) {
             fault(1, "knots 2;first ^" + word + ";");
         }
         fault(1, "^Knots 2;");
@@ -325,6 +326,16 @@ final class TextEdges extends Edges {
         due("a text ends at n, though the TAPE goes on", -1, game.text(7));
         due("fault", 1, game.fault(0));
         due("place", 7, game.fault(1));
+        Tape.feed(game, "knots 2;first cut;");
+        due("a word ends at n, though its letters go on", -1, game.text(16));
+        due("fault", 1, game.fault(0));
+        due("place", 14, game.fault(1));
+        Tape.feed(game, "knots 2;");
+        due("the first word, likewise", -1, game.text(4));
+        due("place", 0, game.fault(1));
+        Tape.feed(game, "knots 2;lines");
+        due("a word that is whole at n", -1, game.text(12));
+        due("place", 12, game.fault(1));
         Tape.feed(game, "knots 2" + " ".repeat(593));
         due("a full TAPE", -1, game.text(600));
         due("its length", 600, game.fault(1));

@@ -43,6 +43,7 @@ final class WhatIfEdges extends Edges {
         due("eight KNOTS, each line twice", 128, game(DOUBLE_CHAIN).trees());
         due("all of four", 16, game(ALL_OF_FOUR).trees());
         due("a wheel", 841, game(WHEEL).trees());
+        due("lines of all states", 3, game(STANDING_KEEN).trees());
     }
 
     private void treesWith() {
@@ -51,6 +52,7 @@ final class WhatIfEdges extends Edges {
         row("treesWith, a line that all need", game(TAIL)::treesWith, 0, 1, 1, 2);
         row("treesWith, within a PLACE", game(HAD)::treesWith, 1, 0, 0);
         row("treesWith, no TREES", game(LOST)::treesWith, 0, 0, 0);
+        row("treesWith, lines of all states", game(STANDING_KEEN)::treesWith, 0, -2, 0, -2, 2, -2, 3, -2, 2, 2);
         SwitchGame wheel = game(WHEEL);
         // A tree has seven lines, so that one of the ring and one to KNOT 0 are together in 841.
         due("both kinds of lines of a wheel", 841, wheel.treesWith(0) + wheel.treesWith(13));
@@ -95,6 +97,7 @@ final class WhatIfEdges extends Edges {
         promise(41, "FORESTS, what 0 how many LINES both have, 1 the first, 2 the second, as bits.");
         row("forests, new", new SwitchGame()::forests, 0, 0, 0, 0);
         row("forests", game(BRIDGE)::forests, 0, 5, 5, 26);
+        row("forests, lines of all states", game(STANDING_KEEN)::forests, 0, 4, 8, 416);
         row("forests of fourteen", game(DOUBLE_CHAIN)::forests, 0, 14, 127, 16256);
 
         promise(41, "NONE for another what.");
@@ -113,6 +116,7 @@ final class WhatIfEdges extends Edges {
         promise(28, "Whether a LINE is IDLE (1, 0);");
         row("idle", game(TAIL)::idle, 0, 0, 0, 1);
         row("idle where each is spare", game(SAFE)::idle, 0, 1, 1, 1, 1, 1);
+        row("idle, lines of all states", game(STANDING_KEEN)::idle, 0, -2, 1, -2, 0, -2, 1, -2, 0, 0);
         row("idle, JOIN HAS it", game(HAD)::idle, 1, 1, 1);
         row("idle, CUT HAS it", game(LOST)::idle, 0, 1, 1);
         due("the last of fourteen", 1, game(lines("knots 2;", 14)).idle(13));
@@ -136,6 +140,9 @@ final class WhatIfEdges extends Edges {
         SwitchGame roads = game(ROADS);
         row("ifLine(i, 0), roads", i -> roads.ifLine(i, 0), 0, 2, 2, 2, 2);
         row("ifLine(i, 1), roads", i -> roads.ifLine(i, 1), 0, 1, 1, 1, 1);
+        SwitchGame standing = game(STANDING_KEEN);
+        row("ifLine(i, 0), lines of all states", i -> standing.ifLine(i, 0), 0, -2, 2, -2, 0, -2, 2, -2, 0, 0);
+        row("ifLine(i, 1), lines of all states", i -> standing.ifLine(i, 1), 0, -2, 2, -2, 1, -2, 2, -2, 2, 2);
         due("the only one JOINED", 0, game("knots 2;line 0 1;").ifLine(0, 0));
         due("the only one GONE", 1, game("knots 2;line 0 1;").ifLine(0, 1));
         due("the last of fourteen JOINED", 0, game(CHAIN_LESS_ONE).ifLine(6, 0));
@@ -183,6 +190,9 @@ final class WhatIfEdges extends Edges {
         SwitchGame place = game("knots 3;line 0 1;line 1 2;joined 0;");
         due("within a PLACE", 2, place.ifMore(0, 1));
         due("from another KNOT of the PLACE", 0, place.ifMore(0, 2));
+        SwitchGame standing = game(STANDING_KEEN);
+        row("ifMore(4, b), lines of all states", b -> standing.ifMore(4, b), 0, 0, 0, 0, 2, -1);
+        row("ifMore(0, b), lines of all states", b -> standing.ifMore(0, b), 0, -1, 2, 0, 2, 0);
         due("JOIN HAS it", 0, game(HAD).ifMore(0, 1));
         due("CUT HAS it", 2, game(LOST).ifMore(1, 2));
 
@@ -211,6 +221,9 @@ final class WhatIfEdges extends Edges {
         due("one PLACE", 0, apart.ifEnds(1, 0));
         due("one line from a PLACE", 2, apart.ifEnds(0, 2));
         due("KNOTS apart", 1, apart.ifEnds(6, 7));
+        SwitchGame standing = game(STANDING_KEEN);
+        row("ifEnds(3, b), lines of all states", b -> standing.ifEnds(3, b), 0, 1, 1, 2, -1, 1);
+        row("ifEnds(0, b), lines of all states", b -> standing.ifEnds(0, b), 0, -1, 0, 2, 1, 2);
         due("JOIN HAS it, other ends", 1, game("knots 3;ends 0 1;line 0 1;joined 0;").ifEnds(1, 2));
         due("CUT HAS it, other ends", 0, game(LOST).ifEnds(0, 1));
         due("ends stay", 3, bridge.count(3));
@@ -236,6 +249,8 @@ final class WhatIfEdges extends Edges {
         due("KEEN", 1, game(BRIDGE).lacks());
         due("one line", 1, game("knots 2;line 0 1;").lacks());
         due("fourteen lines, one lacks", 1, game(CHAIN_LESS_ONE).lacks());
+        due("lines of all states", 1, game(STANDING_KEEN).lacks());
+        due("lines of all states, a PAIR", 0, game(STANDING).lacks());
         due("not KEEN", 2, game(ROADS).lacks());
         due("CUT HAS it", 2, game(LOST).lacks());
         due("new", 2, new SwitchGame().lacks());
