@@ -254,6 +254,8 @@ final class MoveEdges extends Edges {
         game.move(0);
         due("LINE 0", 0, game.undo());
 
+        askedAgain();
+
         promise(10, "NONE: there is none.");
         String before = State.of(game);
         due("none left", -1, game.undo());
@@ -263,6 +265,28 @@ final class MoveEdges extends Edges {
         game = game("knots 2;line 0 1;line 0 1;joined 0;gone 1;");
         due("what the text told is no move", -1, game.undo());
         due("it stays JOINED", 1, game.line(0, 2));
+    }
+
+    /** What a position told is told again, when a move from it is undone. */
+    private void askedAgain() {
+        for (String first : new String[] {"first cut;", "first join;"}) {
+            SwitchGame game = game(BRIDGE + first);
+            due("lucky", 16, game.lucky(-1));
+            game.move(0);
+            due("lucky, 0 taken, " + first, first.equals("first cut;") ? 5 : 11, game.lucky(-1));
+            game.undo();
+            due("lucky again, " + first, 16, game.lucky(-1));
+            due("walls again, " + first, 16, game.walls(-1));
+            game.pass();
+            game.move(2);
+            due("lucky, 2 taken, " + first, first.equals("first cut;") ? 9 : 7, game.lucky(-1));
+            game.undo();
+            due("needed again, " + first, 0, game.needed());
+            row("strong again, " + first, game::strong, 0, 0, 1, 3, 4, 2);
+            game.undo();
+            row("positions again, " + first, game::positions, 0, 59, 59, 125, 243);
+            due("outcome again, " + first, 2, game.outcome());
+        }
     }
 
     private void written() {
