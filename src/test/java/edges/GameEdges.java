@@ -326,6 +326,12 @@ final class GameEdges extends Edges {
         due("a pass turns it", 1, afterPass(ONE_TELLS).chance(FAR, 1));
         due("of two that are OPEN the second", 1, game("knots 3;ends 0 1;line 1 2;line 0 1;line 1 2;gone 0;").chance(FAR, 1));
         due("of two that are OPEN the first", 0, game("knots 3;ends 0 1;line 1 2;line 0 1;line 1 2;gone 0;").chance(1, 1));
+        // Some of these games end with the fourteenth line, which is JOIN's.
+        SwitchGame fourteen = game(lines("knots 3;ends 0 2;", 13) + "line 0 2;");
+        due("fourteen lines, seed 0", 30, fourteen.chance(0, 50));
+        due("fourteen lines, seed 1", 25, fourteen.chance(1, 50));
+        due("fourteen lines, the highest seed", 25, fourteen.chance(FAR, 50));
+        due("fourteen lines, JOIN first", 20, game(lines("knots 3;ends 0 2;", 13) + "line 0 2;first join;").chance(0, 50));
         due("JOIN HAS it", 50, game(HAD).chance(7, 50));
         due("CUT HAS it", 0, game(LOST).chance(7, 50));
 
