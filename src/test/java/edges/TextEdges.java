@@ -253,6 +253,25 @@ final class TextEdges extends Edges {
         fault(1, "knots 3;line ^3 3;");
         fault(1, "knots 3;ends ^3 3;");
         fault(1, "\n\n  ^first first;");
+        // Told already (3), but where a ';' or an N is due (1).
+        fault(1, "knots 3 ^knots 3;");
+        fault(1, "knots ^knots 3;");
+        fault(1, "knots 3;ends 0 1 ^ends 0 1;");
+        fault(1, "knots 3;ends 0 ^ends 0 1;");
+        fault(1, "knots 3;ends 0 1;line 0 ^ends 0 1;");
+        fault(1, "knots 3;first cut ^first cut;");
+        fault(1, "knots 3;first ^knots 3;");
+        fault(1, "knots 3;first ^first join;");
+        fault(1, "knots 3;line 0 1;joined 0 ^0;");
+        fault(1, "knots 3;line 0 1;gone 0 ^0;");
+        fault(1, "knots 3;line 0 1 ^1;");
+        fault(1, "knots 3;ends 0 1 ^1;");
+        // Too much (2), but where a ';' or an N is due (1).
+        String fourteenth = lines("knots 2;", 13) + "line 0 1";
+        fault(1, fourteenth + " ^line 0 1;");
+        fault(1, fourteenth + ";ends ^line 0 1;");
+        fault(1, fourteenth + ";joined ^line 0 1;");
+        fault(1, "knots 3 ^9;");
         SwitchGame game = new SwitchGame();
         Tape.read(game, " ".repeat(599) + "x");
         due("a place far behind", 599, game.fault(1));
